@@ -24,10 +24,8 @@ public final class PunchCards {
     private static final int FARTHEST_SEEN = 20;
     private static final int DEAREST_CUT = 50;
 
-    private Told told = new Told();
-    private Told draft = new Told();
     private final Reader reader = new Reader();
-    private final Loom loom = new Loom(told);
+    private final Loom loom = new Loom();
     private final Sieve sieve = new Sieve();
     private final Tangle tangle = new Tangle();
     private final Wardrobe wardrobe = new Wardrobe();
@@ -41,6 +39,8 @@ public final class PunchCards {
     private final Acts keptActs = new Acts();
     private final Seen seen = new Seen();
     private final Seen keptSeen = new Seen();
+    private Told told = new Told();
+    private Told draft = new Told();
     private boolean imaged = false;
     private int faultPlace = NONE;
 
@@ -76,7 +76,7 @@ public final class PunchCards {
         Told older = told;
         told = draft;
         draft = older;
-        loom.mount(told);
+        loom.forgetRule();
         now.begin(told);
         acts.size = 0;
         seen.size = 0;
@@ -218,7 +218,7 @@ public final class PunchCards {
         if (sundays < 0 || sundays > FARTHEST) {
             throw new IllegalArgumentException("0 to 30 Sundays");
         }
-        loom.weave(now, sundays);
+        loom.weave(told, now, sundays);
         return loom.rows[pick];
     }
 
@@ -238,11 +238,11 @@ public final class PunchCards {
     }
 
     public int changes() {
-        loom.weave(now, 0);
+        loom.weave(told, now, 0);
         loom.keepAside();
         // Behind 9 Sundays every laced card is worn smooth, so no later one can be the first.
         for (int i = 1; i <= SMOOTH; i++) {
-            loom.weave(now, i);
+            loom.weave(told, now, i);
             if (loom.unlikeAside() != 0) {
                 return i;
             }
@@ -254,7 +254,7 @@ public final class PunchCards {
         if (thread != NONE && !isThread(thread)) {
             throw new NoSuchElementException("no such thread");
         }
-        loom.weave(now, 0);
+        loom.weave(told, now, 0);
         if (thread != NONE) {
             return loom.floatOf(thread);
         }
@@ -270,10 +270,10 @@ public final class PunchCards {
     public int stands(int figure, int what) throws NoSuchElementException {
         needFigure(figure);
         needWhat(what, 1);
-        loom.weave(now, 0);
+        loom.weave(told, now, 0);
         int places = 0;
         for (int p = 0; p < loom.picks; p++) {
-            int starts = loom.startsAt(figure, p);
+            int starts = loom.startsAt(told, figure, p);
             if (what == 0 && starts != 0) {
                 return 100 * p + lowestBit(starts);
             }
@@ -304,8 +304,8 @@ public final class PunchCards {
             int otherwise = Integer.bitCount(holes ^ own);
             if (otherwise < fewest && isWithinReach(holes ^ own, figure)) {
                 trial.holes[card] = holes;
-                loom.weave(trial, 0);
-                if (loom.isAnywhere(figure)) {
+                loom.weave(told, trial, 0);
+                if (loom.isAnywhere(told, figure)) {
                     fewest = otherwise;
                     best = holes;
                 }
@@ -316,13 +316,13 @@ public final class PunchCards {
 
     public int same(int card) throws NoSuchElementException {
         needCard(card);
-        loom.weave(now, 0);
+        loom.weave(told, now, 0);
         loom.keepAside();
         trial.copy(now);
         sieve.begin(told.all);
         for (int i = 0; i < Sieve.PATTERNS; i++) {
             trial.holes[card] = sieve.patterns[i];
-            loom.weave(trial, 0);
+            loom.weave(told, trial, 0);
             sieve.good[i] = told.all & ~loom.unlikeAside();
         }
         return sieve.countPassing();
@@ -415,7 +415,7 @@ public final class PunchCards {
         if (card != NONE) {
             needCard(card);
         }
-        loom.weave(now, 0);
+        loom.weave(told, now, 0);
         wardrobe.clear(told.cards);
         for (int c = 0; c < told.cards; c++) {
             wardrobe.wearable[c] = loom.coatsFor(told.had(now, c));
@@ -467,7 +467,7 @@ public final class PunchCards {
     public int gap(int pick, int what) throws NoSuchElementException {
         needPick(pick);
         needWhat(what, 1);
-        loom.weave(now, 0);
+        loom.weave(told, now, 0);
         int row = loom.rows[pick];
         int widest = 0;
         int first = NONE;
@@ -509,8 +509,8 @@ public final class PunchCards {
         int bits = 0;
         for (int card = 0; card < told.cards; card++) {
             tryTurned(card);
-            loom.weave(trial, 0);
-            if (loom.isAnywhere(figure)) {
+            loom.weave(told, trial, 0);
+            if (loom.isAnywhere(told, figure)) {
                 bits |= 1 << card;
             }
         }
@@ -521,8 +521,8 @@ public final class PunchCards {
         needPick(place);
         trial.copy(now);
         trial.leaveOut(place);
-        loom.weave(trial, 0);
-        return loom.standing();
+        loom.weave(told, trial, 0);
+        return loom.standing(told);
     }
 
     public int cutting(int sundays) throws IllegalArgumentException {
@@ -545,7 +545,7 @@ public final class PunchCards {
 
     public boolean mirrored(int what) throws NoSuchElementException {
         needWhat(what, 1);
-        loom.weave(now, 0);
+        loom.weave(told, now, 0);
         for (int p = 0; p < loom.picks; p++) {
             int row = loom.rows[p];
             int opposite = what == 0 ? loom.rows[loom.picks - 1 - p] : told.turned(row);
@@ -623,7 +623,7 @@ public final class PunchCards {
     }
 
     private int plainThreads() {
-        loom.weave(now, 0);
+        loom.weave(told, now, 0);
         int ever = 0;
         for (int p = 0; p < loom.picks; p++) {
             ever |= loom.rows[p];
@@ -632,7 +632,7 @@ public final class PunchCards {
     }
 
     private int repeatOf() {
-        loom.weave(now, 0);
+        loom.weave(told, now, 0);
         for (int by = 1; by < loom.picks; by++) {
             if (loom.isAsMovedBy(by)) {
                 return by;
@@ -642,13 +642,13 @@ public final class PunchCards {
     }
 
     private int standingNow() {
-        loom.weave(now, 0);
-        return loom.standing();
+        loom.weave(told, now, 0);
+        return loom.standing(told);
     }
 
     private void passSunday(Work work) {
-        loom.weave(work, 0);
-        work.grants += Integer.bitCount(loom.standing());
+        loom.weave(told, work, 0);
+        work.grants += Integer.bitCount(loom.standing(told));
         work.wearOn();
         work.sunday++;
     }
@@ -659,8 +659,8 @@ public final class PunchCards {
         for (int i = 0; i < many; i++) {
             // Behind 9 Sundays every laced card is worn smooth: the cloth stays what it is.
             if (i <= SMOOTH) {
-                loom.weave(work, i);
-                each = Integer.bitCount(loom.standing());
+                loom.weave(told, work, i);
+                each = Integer.bitCount(loom.standing(told));
             }
             grants += each;
         }
@@ -679,7 +679,7 @@ public final class PunchCards {
         for (int i = 0; i < seen.size; i++) {
             if (seen.behind[i] != woven) {
                 woven = seen.behind[i];
-                loom.weave(work, woven);
+                loom.weave(told, work, woven);
             }
             boolean up = (loom.rows[seen.picks[i]] >> seen.threads[i] & 1) == 1;
             if (up != seen.ups[i]) {
@@ -702,7 +702,7 @@ public final class PunchCards {
         for (int card = 0; card < told.cards; card++) {
             tryTurned(card);
             if (threadsNotAsSeen(trial) == 0) {
-                loom.weave(trial, 0);
+                loom.weave(told, trial, 0);
                 System.arraycopy(loom.rows, 0, turnedRows, cloths * MOST_PICKS, MOST_PICKS);
                 cloths++;
             }
@@ -790,7 +790,7 @@ public final class PunchCards {
     }
 
     private int threadsUp(Work work) {
-        loom.weave(work, 0);
+        loom.weave(told, work, 0);
         int many = 0;
         for (int p = 0; p < loom.picks; p++) {
             many += Integer.bitCount(loom.rows[p]);
@@ -1095,18 +1095,6 @@ public final class PunchCards {
                 fail(UNFIT);
             }
             needSign(';');
-            if (problem == 0) {
-                maskHoles(draft);
-            }
-        }
-
-        // THREADS may be told behind the cards, so the whole of a card's holes is kept until the end.
-        private void maskHoles(Told draft) {
-            if (kind == END) {
-                for (int card = 0; card < draft.cards; card++) {
-                    draft.holes[card] &= draft.all;
-                }
-            }
         }
 
         private void readThreads(Told draft) {
@@ -1299,7 +1287,10 @@ public final class PunchCards {
         int grants = 0;
 
         void begin(Told told) {
-            System.arraycopy(told.holes, 0, holes, 0, MOST_CARDS);
+            for (int card = 0; card < MOST_CARDS; card++) {
+                // THREADS may be told behind the cards, so only now is it known which holes are none.
+                holes[card] = told.holes[card] & told.all;
+            }
             System.arraycopy(told.wear, 0, wear, 0, MOST_CARDS);
             System.arraycopy(told.laced, 0, laced, 0, MOST_PICKS);
             picks = told.picks;
@@ -1485,19 +1476,14 @@ public final class PunchCards {
         // By pick, wear and way: the threads that UP lifts then. A rule is worked out once for each.
         private final int[] lifted = new int[MOST_PICKS * WEARS * WAYS];
         private final int[] known = new int[MOST_PICKS * WEARS];
-        private Told told;
 
-        Loom(Told firstTold) {
-            told = firstTold;
-        }
-
-        void mount(Told newTold) {
-            told = newTold;
+        /** Another text may tell another UP, or other THREADS. */
+        void forgetRule() {
             Arrays.fill(known, 0);
         }
 
         /** The cloth of a lace behind so many Sundays (on which all laced cards wear on). */
-        void weave(Work work, int sundays) {
+        void weave(Told told, Work work, int sundays) {
             picks = work.picks;
             int ahead = 0;
             for (int p = 0; p < picks; p++) {
@@ -1506,15 +1492,15 @@ public final class PunchCards {
                 int holes = wear >= SMOOTH ? told.all : work.holes[card];
                 int cell = (told.up.uses(PICK) ? p * WEARS : 0) + (told.up.uses(WEAR) ? wear : 0);
                 if (known[cell] == 0 && told.up.isTold()) {
-                    learn(cell, p, wear);
+                    learn(told, cell, p, wear);
                 }
-                ahead = told.up.isTold() ? rowBy(cell * WAYS, holes, ahead) : holes;
+                ahead = told.up.isTold() ? rowBy(cell * WAYS, told.all, holes, ahead) : holes;
                 rows[p] = ahead;
             }
         }
 
-        private int rowBy(int at, int holes, int ahead) {
-            int left = holes << 1 & told.all;
+        private int rowBy(int at, int all, int holes, int ahead) {
+            int left = holes << 1 & all;
             int right = holes >> 1;
             return ~(left | right) & liftedAmong(at, holes, ahead)
                     | (left ^ right) & liftedAmong(at + 4, holes, ahead)
@@ -1526,19 +1512,19 @@ public final class PunchCards {
                     | ~ahead & (holes & lifted[at + 1] | ~holes & lifted[at]);
         }
 
-        private void learn(int cell, int pick, int wear) {
+        private void learn(Told told, int cell, int pick, int wear) {
             int minded = (told.up.uses(HOLE) ? 1 : 0) | (told.up.uses(AHEAD) ? 2 : 0) | (told.up.uses(BESIDE) ? 12 : 0);
             values[PICK] = pick;
             values[WEAR] = wear;
             for (int way = 0; way < WAYS; way++) {
                 int like = way & minded;
                 // What the rule never looks at makes no other row.
-                lifted[cell * WAYS + way] = like < way ? lifted[cell * WAYS + like] : workOut(way);
+                lifted[cell * WAYS + way] = like < way ? lifted[cell * WAYS + like] : workOut(told, way);
             }
             known[cell] = 1;
         }
 
-        private int workOut(int way) {
+        private int workOut(Told told, int way) {
             values[HOLE] = way & 1;
             values[AHEAD] = way >> 1 & 1;
             values[BESIDE] = way >> 2;
@@ -1590,7 +1576,7 @@ public final class PunchCards {
         }
 
         /** The threads from which on a figure stands at a pick, as bits. */
-        int startsAt(int figure, int pick) {
+        int startsAt(Told told, int figure, int pick) {
             int width = told.widths[figure];
             int height = told.heights[figure];
             int last = told.threads - width;
@@ -1608,19 +1594,19 @@ public final class PunchCards {
             return fit;
         }
 
-        boolean isAnywhere(int figure) {
+        boolean isAnywhere(Told told, int figure) {
             for (int p = 0; p < picks; p++) {
-                if (startsAt(figure, p) != 0) {
+                if (startsAt(told, figure, p) != 0) {
                     return true;
                 }
             }
             return false;
         }
 
-        int standing() {
+        int standing(Told told) {
             int bits = 0;
             for (int f = 0; f < told.figures; f++) {
-                if (isAnywhere(f)) {
+                if (isAnywhere(told, f)) {
                     bits |= 1 << f;
                 }
             }

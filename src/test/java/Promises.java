@@ -173,6 +173,8 @@ public final class Promises {
         faulty("threads 8;threads", 5, 10);
         faulty("thread 8;", 1, 0);
         faulty("Threads 8;", 1, 0);
+        faulty("dard 0 0 0;", 1, 0);
+        faulty("care 0 0 0;", 1, 0);
         faulty("8;", 1, 0);
         faulty(";", 1, 0);
         faulty("12345;", 1, 0);
@@ -215,6 +217,8 @@ public final class Promises {
         faulty("up 12345;", 2, 3);
         faulty("up 1 12345;", 1, 5);
         faulty("up first;", 3, 3);
+        faulty("up dole;", 3, 3);
+        faulty("up holey;", 3, 3);
         faulty("harm hole;", 3, 5);
         faulty("harm wear;", 3, 5);
         faulty("up or;", 3, 3);
@@ -483,6 +487,7 @@ public final class Promises {
         y.sundays(1);
         is(17, "granted(0) behind a SUNDAY", y.granted(0), 2);
         is(17, "granted(29) behind a SUNDAY", y.granted(29), 32);
+        is(17, "granted(11), worn smooth behind 9", of("threads 2;card 1 0 0;lace 0;figure 0 2 3;").granted(11), 2);
         fails(17, "granted(31)", IAE, () -> y.granted(31));
         fails(17, "granted(-1)", IAE, () -> y.granted(-1));
 
@@ -575,6 +580,8 @@ public final class Promises {
         is(23, "punching(0, 0, 0): it stands", stands.punching(0, 0, 0), 0);
         is(23, "punching(0, 0, 1): as it is", stands.punching(0, 0, 1), 12);
         is(23, "punching(1, 1, 1): worn smooth", stands.punching(1, 1, 1), 5);
+        is(23, "punching to all HOLES", of("threads 2;card 0 0 0;lace 0;figure 0 2 3;").punching(0, 0, 1), 3);
+        is(23, "punching to none", of("threads 2;card 3 0 0;lace 0;figure 0 2 0;").punching(0, 0, 1), 0);
         PunchCards beside = of("threads 12;card 0 0 0;lace 0;figure 0 4 15;up beside=2;");
         is(23, "punching by THREADS beside", beside.punching(0, 0, 0), 6);
         is(23, "HOLES by THREADS beside", beside.punching(0, 0, 1), 63);
@@ -608,6 +615,11 @@ public final class Promises {
         is(28, "punched(1, 0)", x.punched(1, 0), 0);
         is(28, "punched(1, 1)", x.punched(1, 1), NONE);
         is(28, "punched(2, 0): not laced", x.punched(2, 0), 0);
+        PunchCards only = of("threads 2;card 0 0 0;lace 0;");
+        only.see(0, 0, 0, true);
+        only.see(0, 1, 0, true);
+        is(28, "punched(0, 0): all alone", only.punched(0, 0), 1);
+        is(28, "punched(0, 1): all alone", only.punched(0, 1), 3);
         is(29, "next(0): one CARD", x.next(0), 0);
         is(29, "next(1): one CARD", x.next(1), 1);
         is(25, "see(1, 3, 0, true)", x.see(1, 3, 0, true), 2);
@@ -829,6 +841,7 @@ public final class Promises {
         is(39, "cutting(2)", cut2.cutting(2), 1);
         is(39, "cutting of like ones", of("threads 2;card 1 0 9;card 1 0 9;lace 0 1;figure 0 2 1;").cutting(3), 0);
         is(39, "cutting without CARDS", new PunchCards().cutting(30), NONE);
+        is(39, "cutting to WEAR 0", of("threads 2;card 1 0 9;lace 0;up wear=0;figure 0 1 1;").cutting(1), 0);
         fails(39, "cutting(0)", IAE, () -> cut.cutting(0));
         fails(39, "cutting(31)", IAE, () -> cut.cutting(31));
 
