@@ -951,7 +951,7 @@ public final class PunchCards {
         private static final int MOST_NOTS = 6;
 
         private final byte[] tape = new byte[MOST_BYTES];
-        private int size = 0;
+        int size = 0;
         private int length = 0;
         private int start = 0;
         private int after = 0;
@@ -959,7 +959,7 @@ public final class PunchCards {
         private int number = 0;
         private int digits = 0;
         private int problem = 0;
-        private int place = NONE;
+        int place = NONE;
 
         void append(int fourBytes) {
             for (int shift = 24; shift >= 0 && size < MOST_BYTES; shift -= 8) {
