@@ -25,15 +25,8 @@ public final class Limits {
         System.out.println("limits: " + text);
     }
 
-    private static void tell(PunchCards x, String text) {
-        StringBuilder s = new StringBuilder(text);
-        while (s.length() % 20 != 0) s.append(' ');
-        for (int i = 0; i < s.length(); i += 20) {
-            int[] n = new int[5];
-            for (int k = 0; k < 20; k++) n[k / 4] = n[k / 4] << 8 | s.charAt(i + k) & 255;
-            x.feed(n[0], n[1], n[2], n[3], n[4]);
-        }
-        if (x.chapel(text.length()) != 0) wrong("a fault at " + x.fault() + " in " + text);
+    private static void told(PunchCards x, String text) {
+        if (Check.tell(x, text) != 0) wrong("a fault at " + x.fault() + " in " + text);
     }
 
     private static String heavy(boolean longUp) {
@@ -108,7 +101,7 @@ public final class Limits {
         Random r = new Random(5);
         for (int run = 0; run < 400; run++) {
             PunchCards x = new PunchCards();
-            if (run % 4 != 0) tell(x, heavy(run % 2 == 0));
+            if (run % 4 != 0) told(x, heavy(run % 2 == 0));
             for (int i = 0; i < 600; i++) {
                 int which = r.nextInt(42);
                 if (which > 39 && r.nextInt(4) != 0) which = 20;
@@ -144,7 +137,7 @@ public final class Limits {
         long me = Thread.currentThread().getId();
         for (int kind = 0; kind < 2; kind++) {
             PunchCards x = new PunchCards();
-            tell(x, heavy(kind == 0));
+            told(x, heavy(kind == 0));
             dearest(x);
             long measuring = bean.getThreadAllocatedBytes(me);
             measuring = bean.getThreadAllocatedBytes(me) - measuring;

@@ -1,23 +1,8 @@
-import java.util.NoSuchElementException;
-
 /** For each promise its ordinary answers, the edges that the document names, and wrong arguments, worked out by hand. */
-public final class Promises {
-    private static final Class<?> NSE = NoSuchElementException.class;
-    private static final Class<?> IAE = IllegalArgumentException.class;
-    private static final int NONE = PunchCards.NONE;
-    private static int wrong = 0;
-    private static int checks = 0;
-
-    private interface Call {
-        int go();
-    }
-
+public final class Promises extends Check {
     private static void is(int promise, String call, long got, long want) {
-        checks++;
-        if (got != want) {
-            wrong++;
-            System.out.println("promise " + promise + ": " + call + " answered " + got + ", due is " + want);
-        }
+        about("promise " + promise);
+        is(call, got, want);
     }
 
     private static void is(int promise, String call, boolean got, boolean want) {
@@ -25,45 +10,8 @@ public final class Promises {
     }
 
     private static void fails(int promise, String call, Class<?> want, Call c) {
-        checks++;
-        String got;
-        try {
-            got = "" + c.go();
-        } catch (RuntimeException e) {
-            got = e.getClass().getName();
-        }
-        if (!got.equals(want.getName())) {
-            wrong++;
-            System.out.println("promise " + promise + ": " + call + " answered " + got + ", due is " + want.getName());
-        }
-    }
-
-    private static void feed(PunchCards x, String text) {
-        StringBuilder s = new StringBuilder(text);
-        while (s.length() % 20 != 0) s.append(' ');
-        for (int i = 0; i < s.length(); i += 20) {
-            int[] n = new int[5];
-            for (int k = 0; k < 20; k++) n[k / 4] = n[k / 4] << 8 | s.charAt(i + k) & 255;
-            x.feed(n[0], n[1], n[2], n[3], n[4]);
-        }
-    }
-
-    private static int tell(PunchCards x, String text) {
-        feed(x, text);
-        return x.chapel(text.length());
-    }
-
-    private static PunchCards of(String text) {
-        PunchCards x = new PunchCards();
-        is(3, "'" + text + "'", tell(x, text), 0);
-        return x;
-    }
-
-    private static void faulty(String text, int kind, int place) {
-        PunchCards x = new PunchCards();
-        is(3, "'" + text + "'", tell(x, text), kind);
-        is(4, "fault() of '" + text + "'", x.fault(), place);
-        is(5, "count(13) behind '" + text + "'", x.count(13), 1);
+        about("promise " + promise);
+        fails(call, want, c);
     }
 
     private static String times(String s, int n) {
@@ -93,8 +41,7 @@ public final class Promises {
         seeds();
         section5();
         images();
-        System.out.println("promises: " + checks + " checks, " + wrong + " wrong");
-        System.exit(wrong == 0 ? 0 : 1);
+        finish("promises");
     }
 
     private static void newObject() {
