@@ -1,9 +1,8 @@
 /** Sentences on CARDS, THE LACE, ACTS and the image that name a boundary (promises 1, 5 to 15, 42, 43), each with a test of its own. */
 public final class ActBoundaries extends Check {
-    private static final String LOOM = "threads 4;card 5 1 0;card 3 1 8;card 0 2 0;lace 0 1 0 2;figure 1 2 1 3;figure 2 1 0 0;";
-
     public static void main(String[] args) {
         newObject();
+        manyCalls();
         counts();
         countsOfCloth();
         statuses();
@@ -53,6 +52,24 @@ public final class ActBoundaries extends Check {
         });
     }
 
+    private static void manyCalls() {
+        says("An object is used for at most 512 calls after it has been made", () -> {
+            PunchCards x = new PunchCards();
+            for (int i = 0; i < 510; i++) {
+                x.sundays(0);
+            }
+            is("the 511th call", x.count(14), 510);
+            is("the 512th call", x.sundays(20), 20);
+            PunchCards y = new PunchCards();
+            for (int i = 0; i < 255; i++) {
+                y.feed(-1, -1, -1, -1, -1);
+                y.chapel(20);
+            }
+            is("the 511th call", y.count(13), 255);
+            is("the 512th call", y.chapel(0), 0);
+        });
+    }
+
     // ---- promise 5 -------------------------------------------------------
 
     private static void counts() {
@@ -71,6 +88,7 @@ public final class ActBoundaries extends Check {
             is("of one PICK", of("card 1 0 0;lace 0;harm 9;").count(6), 0);
             is("of two", of("card 1 0 0;lace 0 0;harm 9;").count(6), 9);
             is("of twelve", of("card 1 0 0;lace" + " 0".repeat(12) + ";harm 99;").count(6), 1089);
+            is("of ten CARDS", of("card 0 1 0;".repeat(9) + "card 0 9 0;lace 9 8 9;harm first*10+second;").count(6), 91 + 19);
         });
         says("12 bytes of the tape", () -> {
             PunchCards x = new PunchCards();
@@ -368,6 +386,13 @@ public final class ActBoundaries extends Check {
     }
 
     private static void turning() {
+        says("TURNED (its HOLES from the last THREAD to the first one)", () -> {
+            for (int threads = 2; threads <= 12; threads++) {
+                PunchCards x = of("threads " + threads + ";card 1 0 0;card " + ((1 << threads) - 2) + " 0 0;");
+                is("the first of " + threads, x.turn(0), 1 << threads - 1);
+                is("all but the first of " + threads, x.turn(1), (1 << threads - 1) - 1);
+            }
+        });
         says("TURNED: its HOLES then.", () -> {
             PunchCards two = of("threads 2;card 1 0 0;card 3 0 9;card 0 0 0;");
             is("two THREADS", two.turn(0), 2);

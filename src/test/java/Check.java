@@ -10,6 +10,7 @@ class Check {
     static final int NONE = PunchCards.NONE;
     static final int LEAST = Integer.MIN_VALUE;
     static final int MOST = Integer.MAX_VALUE;
+    static final String LOOM = "threads 4;card 5 1 0;card 3 1 8;card 0 2 0;lace 0 1 0 2;figure 1 2 1 3;figure 2 1 0 0;";
     private static final String DOCUMENT = document();
     private static String about = "";
     private static int sentences = 0;

@@ -365,6 +365,13 @@ public final class ChoiceBoundaries extends Check {
             is("ten CARDS, one PICK", ten.coats(NONE), 1);
             is("the first CARD", ten.coats(0), 0);
             is("the last CARD", ten.coats(9), NONE);
+            // Three CARDS have but PICKS 0 and 1 between them: one of them goes without.
+            PunchCards without = of("threads 2;card 3 0 0;card 2 0 0;card 1 0 0;card 0 0 0;card 2 0 0;lace 1 3 2 0 0 0;");
+            is("five CARDS, six PICKS", without.coats(NONE), 4);
+            int[] row = {3, 0, 2, 1, NONE};
+            for (int c = 0; c < 5; c++) {
+                is("coats(" + c + ")", without.coats(c), row[c]);
+            }
             StringBuilder cards = new StringBuilder("threads 10;");
             for (int c = 0; c < 10; c++) {
                 cards.append("card ").append((2 << c) - 1).append(" 0 0;");
@@ -415,11 +422,23 @@ public final class ChoiceBoundaries extends Check {
             is("the first", x.game(0, 1, 1), 0);
             is("more by the other choice", x.game(0, 2, 0), 2);
             is("the first", x.game(0, 2, 1), 1);
+            PunchCards apart = of("threads 4;card 3 0 0;card 12 1 0;");
+            is("neither, or both TURNED", apart.game(0, 1, 0), 2);
+            is("the first", apart.game(0, 1, 1), 0);
             is("no HOLES", x.game(3, 1, 0), 1);
             is("no HOLES", x.game(3, 1, 1), 0);
             is("worn smooth", x.game(4, 0, 0), 1);
             is("worn smooth", x.game(4, 0, 1), 0);
             is("HOLES stay", x.card(0, 0), 3);
+        });
+        says("each gains how many THREADS have a HOLE in it, but not in the other one, less 2, if it is TURNED", () -> {
+            PunchCards one = of("threads 4;card 1 0 0;card 1 1 0;");
+            is("1 more is not worth it", one.game(0, 1, 0), 1);
+            PunchCards two = of("threads 4;card 3 0 0;card 3 1 0;");
+            is("2 more is as good", two.game(0, 1, 0), 3);
+            PunchCards three = of("threads 6;card 7 0 0;card 7 1 0;");
+            is("3 more is worth it", three.game(0, 1, 0), 2);
+            is("the other one's", three.game(0, 1, 1), 1);
         });
         says("less the SNARL of both (the first one first)", () -> {
             PunchCards x = of("threads 4;card 3 2 0;card 3 7 0;harm (first=2)*holes*60;");

@@ -1,6 +1,5 @@
 /** Sentences on CLOTH that name a boundary (promises 16 to 24, 34, 37, 38, 40), each with a test of its own. */
 public final class ClothBoundaries extends Check {
-    private static final String LOOM = "threads 4;card 5 1 0;card 3 1 8;card 0 2 0;lace 0 1 0 2;figure 1 2 1 3;figure 2 1 0 0;";
     private static final String TWELVE = "lace" + " 0".repeat(11) + " 1;";
 
     public static void main(String[] args) {
@@ -82,6 +81,12 @@ public final class ClothBoundaries extends Check {
     }
 
     private static void wornSmooth() {
+        says("GRANTED behind so many (0 to 30)", () -> {
+            PunchCards x = of("threads 2;card 0 0 9;lace 0;" + "figure 0 1 1;".repeat(5));
+            for (int n = 0; n <= 30; n++) {
+                is("granted(" + n + ")", x.granted(n), 5 * n);
+            }
+        });
         says("WORN: behind how many SUNDAYS (0 to 9) a CARD is worn smooth; none.", () -> {
             PunchCards x = of("card 0 0 0;card 0 0 1;card 0 0 8;card 0 0 9;lace 0 1 2 3 0;");
             is("of WEAR 0", x.worn(0), 9);
@@ -165,6 +170,7 @@ public final class ClothBoundaries extends Check {
         });
         says("of all THREADS the longest one (of like ones the least THREAD)", () -> {
             is("all alike", of("threads 12;card 4095 0 0;lace 0 0;").floats(NONE), 0);
+            is("all alike, none as long as CLOTH", of("threads 2;card 1 0 0;card 2 0 0;lace 0 1;").floats(NONE), 0);
             is("the last one", of("threads 3;card 3 0 0;card 0 0 0;lace 0 1 0;").floats(NONE), 2);
             is("the second of three", of("threads 4;card 1 0 0;card 0 0 0;lace 0 1 0;").floats(NONE), 1);
             is("without a LACE", of("card 1 0 0;").floats(NONE), 0);
@@ -340,6 +346,15 @@ public final class ClothBoundaries extends Check {
     // ---- promises 34, 37, 38, 40 -----------------------------------------
 
     private static void gaps() {
+        says("A GAP of a PICK: the most THREADS next to each other that aren't up at it", () -> {
+            for (int threads = 2; threads <= 12; threads++) {
+                PunchCards x = of("threads " + threads + ";card 1 0 0;card " + (1 << threads - 1) + " 0 0;lace 0 1;");
+                is("all but the first of " + threads, x.gap(0, 0), threads - 1);
+                is("from the second on", x.gap(0, 1), 1);
+                is("all but the last of " + threads, x.gap(1, 0), threads - 1);
+                is("from the first on", x.gap(1, 1), 0);
+            }
+        });
         says("A GAP: how many (what 0), the first THREAD (1; NONE: all are up). NoSuchElementException: also another what.", () -> {
             PunchCards x = of("threads 12;card 4095 0 0;card 0 0 0;" + TWELVE);
             is("all are up", x.gap(0, 0), 0);

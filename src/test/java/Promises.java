@@ -306,8 +306,6 @@ public final class Promises extends Check {
         is(9, "snarl(1, 0)", y.snarl(1, 0), 53);
     }
 
-    private static final String LOOM = "threads 4;card 5 1 0;card 3 1 8;card 0 2 0;lace 0 1 0 2;figure 1 2 1 3;figure 2 1 0 0;";
-
     private static void acts() {
         PunchCards x = of("threads 4;card 1 1 7;card 3 1 0;card 8 2 0;lace 0 1 0;figure 1 4 1;figure 1 4 15;");
         is(10, "sundays(2)", x.sundays(2), 2);

@@ -1,7 +1,5 @@
 /** Sentences on TEXTS that name a boundary (terms of a TEXT, promises 2 to 4), each with a test of its own. */
 public final class TextBoundaries extends Check {
-    private static final String LOOM = "threads 4;card 5 1 0;card 3 1 8;card 0 2 0;lace 0 1 0 2;figure 1 2 1 3;figure 2 1 0 0;";
-
     public static void main(String[] args) {
         limitsOfThreadsAndCards();
         limitsOfLaceAndFigures();
@@ -216,6 +214,22 @@ public final class TextBoundaries extends Check {
             faulty("card 0 0 0 0;", 1, 11);
             faulty("card (0) 0 0;", 1, 5);
         });
+        says("('threads' NUMBER |", () -> {
+            faulty("threads;", 1, 7);
+            faulty("threads 8 8;", 1, 10);
+            faulty("threads (8);", 1, 8);
+            faulty("threads card;", 1, 8);
+        });
+        says("('up' | 'harm') EXPR) ';', all in capitals but EXPR being NUMBERS", () -> {
+            faulty("up;", 1, 2);
+            faulty("harm;", 1, 4);
+            faulty("up 1", 1, 4);
+            faulty("up 1;;", 1, 5);
+            faulty("card hole 0 0;", 1, 5);
+            faulty("card 1+1 0 0;", 1, 6);
+            faulty("figure 0 (1) 0;", 1, 9);
+            faulty("card 0 0 0;lace (0);", 1, 16);
+        });
         says("'lace' CARD CARD*", () -> {
             faulty("card 0 0 0;lace;", 1, 15);
             faulty("card 0 0 0;lace card;", 1, 16);
@@ -240,6 +254,25 @@ public final class TextBoundaries extends Check {
             faulty("up 1 < 2 = 3;", 1, 9);
             is("a test within a parenthesis", harm("(1<2)<3"), 1);
             is("not takes the whole test", harm("not 1<0"), 1);
+        });
+        says("EXPR: AND ('or' AND)*. AND: NOT ('and' NOT)*.", () -> {
+            is("no 'or', no 'and'", harm("7"), 7);
+            is("many 'or'", harm("0" + " or 0".repeat(100)), 0);
+            is("the last of many 'or'", harm("0" + " or 0".repeat(100) + " or 5"), 1);
+            is("many 'and'", harm("5" + " and 5".repeat(100)), 1);
+            is("the last of many 'and'", harm("5" + " and 5".repeat(100) + " and 0"), 0);
+            is("'and' binds first", harm("0 and 0 or 1"), 1);
+            faulty("up 1 or;", 1, 7);
+            faulty("up 1 and;", 1, 8);
+            faulty("up 1 or or 1;", 3, 8);
+        });
+        says("SUM: PRODUCT (('+' | '-') PRODUCT)*. PRODUCT: PART (('*' | '/') PART)*.", () -> {
+            is("many + and -", harm("7" + "+9-9".repeat(100)), 7);
+            is("many * and /", harm("7" + "*9/9".repeat(100)), 7);
+            is("products first", harm("2+3*4"), 14);
+            is("products first", harm("90-8/2"), 86);
+            faulty("up 1++1;", 1, 5);
+            faulty("up 1*/1;", 1, 5);
         });
         says("PART: NUMBER | VALUE | '(' EXPR ')'.", () -> {
             faulty("up;", 1, 2);
@@ -324,6 +357,14 @@ public final class TextBoundaries extends Check {
             is("all others two", of("threads 12;card 4095 0 0;lace 0;up beside=2;").then(0, 0), 2046);
             is("worn smooth", of("threads 12;card 0 0 9;lace 0;up beside=1;").then(0, 0), 2049);
         });
+        says("'ahead' (1, if it was up at the PICK ahead, else 0)", () -> {
+            PunchCards x = of("threads 3;card 1 0 0;card 2 0 0;lace 0 1 0;up hole+ahead=1;");
+            is("hole alone", x.then(0, 0), 1);
+            is("hole, or ahead alone", x.then(1, 0), 3);
+            is("not both", x.then(2, 0), 2);
+            is("by what was up, not by HOLES", of("threads 2;card 3 0 0;lace 0 0;up pick=0 and thread=1 or ahead;").then(1, 0), 2);
+            is("the PICK ahead alone", of("threads 2;card 0 0 0;lace 0 0 0;up pick=0 or pick=2 and ahead;").then(2, 0), 0);
+        });
         says("VALUES of UP, for a THREAD at a PICK", () -> {
             for (int sum = -1; sum <= 12; sum++) {
                 allWays(sum, "");
@@ -351,6 +392,8 @@ public final class TextBoundaries extends Check {
             is("WEAR 8", y.then(0, 8), 0);
             is("WEAR 9", y.then(0, 9), 3);
             is("WEAR 9 still", y.then(0, 10), 3);
+            PunchCards most = of("threads 12;card 4095 0 9;lace" + " 0".repeat(12) + ";up pick+thread+wear+hole+beside+ahead=33;");
+            is("the most of all, at the last two THREADS", most.then(11, 0), 3072);
         });
     }
 
