@@ -1,3 +1,4 @@
+import java.io.IOException;
 import java.lang.reflect.Constructor;
 import java.lang.reflect.Field;
 import java.lang.reflect.Method;
@@ -42,6 +43,23 @@ public final class Language {
         for (Class<?> inside : c.getDeclaredClasses()) {
             if (!Modifier.isStatic(inside.getModifiers()) || Modifier.isPublic(inside.getModifiers())) wrong(1, inside + " is not as told");
         }
+    }
+
+    /** Every constant, constructor and method as the document writes it, with its types and exceptions, and none besides. */
+    private static void documentsFace() throws IOException {
+        Path document = Path.of("../shared/DOC.md");
+        Set<String> told = new TreeSet<>();
+        Matcher lines = Pattern.compile("(?m)^    (public [^;]*);$").matcher(Files.readString(document));
+        while (lines.find()) told.add(lines.group(1).replaceAll("(int|boolean) \\w+(?=[,)])", "$1").replaceAll(" = .*", ""));
+        Set<String> found = new TreeSet<>();
+        for (Method m : PunchCards.class.getDeclaredMethods()) if (Modifier.isPublic(m.getModifiers())) found.add(written(m.toString()));
+        for (Constructor<?> k : PunchCards.class.getDeclaredConstructors()) found.add(written(k.toString()));
+        for (Field f : PunchCards.class.getDeclaredFields()) if (Modifier.isPublic(f.getModifiers())) found.add(written(f.toString()));
+        if (told.isEmpty() || !found.equals(told)) wrong(1, "the document's face is " + told + ", this is " + found);
+    }
+
+    private static String written(String member) {
+        return member.replace("PunchCards.", "").replaceAll("java\\.(lang|util)\\.", "").replace(",", ", ");
     }
 
     private static void members(Class<?> c) {
@@ -95,6 +113,7 @@ public final class Language {
     public static void main(String[] args) throws Exception {
         String source = Files.readString(SOURCE);
         face();
+        documentsFace();
         members(PunchCards.class);
         int classes = 1;
         for (Class<?> inside : PunchCards.class.getDeclaredClasses()) {
